@@ -12,6 +12,7 @@ public final class HeardTest {
         hears();
         hearsLate();
         wrongByNear();
+        firstTooNear();
         wrongByLong();
         meet();
         Due.end("HeardTest");
@@ -184,6 +185,18 @@ public final class HeardTest {
             judged("kind " + kind + " OTHER 4", kind, 4, 4, false);
             judged("kind " + kind + " OTHER 0", kind, 4, 0, false);
         }
+    }
+
+    private static void firstTooNear() {
+        Due.promise(27, "judge");
+        RoadThatSings x = new RoadThatSings();
+        x.stretch(1, 3, 0, 1);
+        x.stretch(1, 2, 0, 1);
+        Due.due("the first", x.judge(), 0);
+        x.ask(1, 3);
+        Due.due("the second", x.judge(), 1);
+        x.ask(1, 2);
+        Due.due("none", x.judge(), -1);
     }
 
     private static void judged(String what, int kind, int space, int other, boolean wrong) {

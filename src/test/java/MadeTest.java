@@ -58,6 +58,9 @@ public final class MadeTest {
         cutNote(x, 1, 0, 1, 2, 7, 999);
         Due.tune(x, 117, 1);
         cutNote(x, 2, 0, 10, 60);
+        // at 99 a SPACE of 59 is 999 off, of 60 it is 998
+        Due.tune(x, 581, 1);
+        cutNote(x, 3, 0, 99, 60, 23, 998);
     }
 
     private static void cutTimes() {
@@ -87,9 +90,10 @@ public final class MadeTest {
             cutNote(x, 3, note, 10, 10, 60);
         }
         cutNote(x, 3, 4, 10, 10, 42);
-        // PLACES 25344 ..: the way is cut once for all the beats
+        // the PLACE is 105.6, cut: as far from 100 as from 110
+        x.ask(3, 50);
         Due.tune(x, 704, 3);
-        cutNote(x, 4, 0, 10, 10, 42);
+        cutNote(x, 4, 0, 10, 10, 10);
     }
 
     private static void cutRefused() {
@@ -158,6 +162,9 @@ public final class MadeTest {
         Due.tune(x);
         Due.due("fits", x.fits(0, 10), 1);
         Due.due("a tune of none", x.fits(1, 10), 1);
+        Due.tune(x, 704, 1);
+        x.ask(2, 0);
+        Due.due("just so", x.fits(2, 10), 1);
         x.ask(2, 5);
         Due.due("BORNE at most", x.fits(0, 10), 1);
         x.ask(2, 4);
@@ -173,11 +180,11 @@ public final class MadeTest {
         x.ask(1, 11);
         Due.due("too near", x.fits(0, 10), 0);
         Due.tune(x, 0, 1);
-        Due.due("a rest whatever NEAR is", x.fits(2, 10), 1);
+        Due.due("a rest whatever NEAR is", x.fits(3, 10), 1);
         x.stretch(1, 1, 0, 60);
-        Due.due("whatever the road is", x.fits(2, 10), 1);
+        Due.due("whatever the road is", x.fits(3, 10), 1);
         Due.due("it stays", x.status(0), 1);
-        Due.due("no tune", x.fits(3, 0), -1);
+        Due.due("no tune", x.fits(4, 0), -1);
         Due.due("no tune", x.fits(-1, 1), -1);
         Due.due("speed", x.fits(0, 0), -6);
         Due.due("speed", x.fits(0, 100), -6);
@@ -269,8 +276,10 @@ public final class MadeTest {
         Due.due("above BORNE", x.two(0, 10, 1, 20), 1);
         x.ask(2, 500);
         Due.due("a rest and a note never", x.two(0, 10, 1, 20), 2);
-        Due.due("the same tune", x.two(2, 60, 2, 60), 1);
+        x.ask(2, 0);
+        Due.due("the same tune", x.two(2, 30, 2, 30), 1);
         Due.due("a space of 60", x.two(2, 60, 2, 60), 1);
+        Due.due("a space of 61", x.two(2, 61, 2, 61), 0);
         Due.due("no tune", x.two(3, 0, 0, 0), -1);
         Due.due("no tune", x.two(0, 1, -1, 1), -1);
         Due.due("speed", x.two(0, 0, 1, 1), -6);
@@ -298,6 +307,9 @@ public final class MadeTest {
         x.ask(3, 2000);
         Due.tune(x, 0, 16);
         Due.due("as many as are wanted", x.brief(4, 99), 111520);
+        // 3520 at SPEED 50 lasts a second, half of what 16 beats are due
+        x.ask(3, 125);
+        Due.due("with nothing to spare", x.brief(4, 50), 3520);
         Due.tune(x);
         Due.due("a tune of none", x.brief(5, 1), 0);
         Due.due("no tune", x.brief(6, 0), -1);
@@ -328,6 +340,7 @@ public final class MadeTest {
         for (int i = 0; i < 12; i++) {
             Due.due("step " + i, x.scale(4, 99, 9956000 / steps[i]), i);
         }
+        scaleSteps();
         Due.due("from far above: 139392000", x.scale(3, 99, 1), 1);
         Due.due("nothing left: 5000 by 9999", x.scale(1, 1, 9999), -1);
         Due.due("1 left: 5000 by 4999", x.scale(1, 1, 4999), 0);
@@ -340,6 +353,26 @@ public final class MadeTest {
         Due.due("pitch", x.scale(0, 1, 10000), -16);
         Due.refused(x, -1, 2);
         Due.refused(x, -6, 4);
+    }
+
+    /** Each number from 1000 to 1999 above a BASE PITCH: 9956000 by b. */
+    private static void scaleSteps() {
+        int[] steps = {1000, 1059, 1122, 1189, 1260, 1335, 1414, 1498, 1587, 1682, 1782, 1888};
+        RoadThatSings x = null;
+        for (int b = 4979; b <= 9956; b++) {
+            if (x == null || b % 400 == 0) {
+                x = new RoadThatSings();
+                x.stretch(1, 7, 0, 1);
+            }
+            int above = 9956000 / b;
+            int step = 0;
+            for (int i = 1; i < 12; i++) {
+                if (Math.abs(steps[i] - above) < Math.abs(steps[step] - above)) {
+                    step = i;
+                }
+            }
+            Due.due("scale(0, 99, " + b + ")", x.scale(0, 99, b), step);
+        }
     }
 
     private static void read() {
@@ -381,11 +414,15 @@ public final class MadeTest {
         Due.due("(0, 3) alike, (1, 2) not", x.mirror(), 1);
         x.stretch(2, 5, 5, 1);
         Due.due("(0, 4) and (1, 3)", x.mirror(), 1);
+        // by 94 and 95 alike at SPEED 10 alone, by 108 and 109 unlike at 10, but not at 9 or 11
         x.till(0);
-        // 7040 by 57 and by 58 are 123 and 121, at SPEED 1 both were 12
-        x.stretch(1, 57, 0, 1);
-        x.stretch(1, 58, 0, 1);
-        Due.due("by speed 10", x.mirror(), 1);
+        x.stretch(5, 60, 34, 1);
+        x.stretch(5, 60, 35, 1);
+        Due.due("alike by speed 10", x.mirror(), 0);
+        x.till(0);
+        x.stretch(5, 60, 48, 1);
+        x.stretch(5, 60, 49, 1);
+        Due.due("unlike by speed 10", x.mirror(), 1);
     }
 
     private static void warns() {
@@ -459,6 +496,14 @@ public final class MadeTest {
             heard += drawn >= 20 && drawn < 50 ? 1 : 0;
         }
         Due.due("the quicker car", x.day(1, 150), heard);
+        x = new RoadThatSings();
+        x.stretch(1, 10, 0, 14);
+        x.car(10, 0, 100);
+        Due.tune(x, 700, 1);
+        x.ask(2, 5);
+        Due.due("BORNE at most", x.day(0, 9), 9);
+        x.ask(2, 4);
+        Due.due("above BORNE", x.day(0, 9), 0);
     }
 
     private static void dayRefused() {

@@ -49,6 +49,10 @@ public final class RoadTest {
         Due.due("LENGTHS", x.status(3), 16 + 12);
         Due.due("until one that can't be", x.stretches(0, 1, 12), 2);
         Due.due("how many", x.status(0), 4);
+        Due.ints(x, 1, 0, 5, 0, 5, 0, 5, 0, 5, -1, 5, 0, 5, 0, 5, 0, 5);
+        Due.due("no more than n", x.stretches(1, 0, 4), 1);
+        Due.due("until no KIND", x.stretches(1, 4, 12), 1);
+        x.till(4);
         Due.due("the fourth's kind", x.stretchOf(3, 0), 6);
         Due.due("the fourth's times", x.stretchOf(3, 3), 4);
         Due.due("first can't be", x.stretches(0, 9, 4), 0);
@@ -121,6 +125,7 @@ public final class RoadTest {
         }
         Due.due("the next number", x.stretch(0, 9, 0, 1), 3);
         Due.due("none", x.till(0), 0);
+        Due.due("shelf 0", x.holds(0), -1);
         Due.refused(x, -6, 3);
     }
 
@@ -228,13 +233,15 @@ public final class RoadTest {
         Due.due("one", x.tune(0, 1), 0);
         long[][] wrong = {{-1, 1}, {10000, 1}, {1, 0}, {1, 17}, {1, -1}};
         for (long[] w : wrong) {
-            Due.ints(x, 0, 5, 5, w[0], w[1]);
-            Due.due("wrong", x.tune(0, 2), -6);
+            Due.ints(x, 0, w[0], w[1], 5, 5);
+            Due.due("wrong at first", x.tune(0, 2), -6);
+            Due.ints(x, 0, 5, 5, w[0], w[1], 5, 5);
+            Due.due("wrong", x.tune(0, 3), -6);
         }
         for (int i = 1; i < 6; i++) {
             Due.due("number", x.tune(0, 1), i);
         }
-        Due.due("wrong ahead of room", x.tune(0, 2), -6);
+        Due.due("wrong ahead of room", x.tune(0, 3), -6);
         Due.due("room", x.tune(0, 1), -7);
         Due.due("how many", x.status(2), 6);
         Due.refused(x, -1, 2);
@@ -242,7 +249,7 @@ public final class RoadTest {
         Due.refused(x, -3, 1);
         Due.refused(x, -4, 1);
         Due.refused(x, -5, 3);
-        Due.refused(x, -6, 7);
+        Due.refused(x, -6, 12);
         Due.refused(x, -7, 1);
     }
 

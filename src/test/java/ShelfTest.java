@@ -169,6 +169,10 @@ public final class ShelfTest {
         Due.due("of a stretch none", x.element(2, 0), 0);
         x.show(2, -1);
         Due.due("of nothing none", x.element(2, 0), 0);
+        x.row(2, 3, 1);
+        x.set(2, 0, 5);
+        x.show(2, -1);
+        Due.due("of nothing that was a row", x.element(2, 0), 0);
         for (int refusal = -1; refusal >= -7; refusal--) {
             Due.refused(x, refusal, 0);
         }
