@@ -16,6 +16,21 @@ final class Due {
         promise = what;
     }
 
+    /** What runs is about this, too. */
+    static void about(String what, Runnable answers) {
+        String before = promise;
+        promise = before + ", " + what;
+        answers.run();
+        promise = before;
+    }
+
+    /** Names the document's sentence that the next calls are about, of its terms or of a promise. */
+    static void sentence(int number, String words) {
+        String place = number == Document.TERMS ? "terms" : "promise " + number;
+        promise = place + " (" + words + ")";
+        holds("it stands in the document", Document.tells(number, words));
+    }
+
     static void due(String call, long got, long want) {
         checked++;
         if (got != want) {
@@ -26,6 +41,14 @@ final class Due {
 
     static void holds(String what, boolean so) {
         due(what, so ? 1 : 0, 1);
+    }
+
+    static void same(String what, String got, String want) {
+        checked++;
+        if (!got.equals(want)) {
+            wrong++;
+            System.out.println(promise + ": " + what + " is" + got + ", due is" + want);
+        }
     }
 
     /** How often the refusal (-1 to -7) was counted. */
