@@ -111,7 +111,8 @@ public final class BookEdgesTest {
         }
         // of 10000 the fifth digit can't stand
         int over = most == 9999 ? place + 4 : place;
-        Calls.fresh().tune(1, 1).faulty(withNumber(word, numbers, which, most + 1), over);
+        String tooMuch = withNumber(word, numbers, which, most + 1);
+        Calls.fresh().tune(1, 1).faulty(tooMuch, over).faulty(tooMuch + ";tune;x", over);
     }
 
     private static void digits() {

@@ -301,5 +301,7 @@ public final class HeardEdgesTest {
         }
         x.calls("meet(999) = 32769 meet(37) = 1 meet(27) = 32768 meet(1) = 0 meet(0) = 65535"
             + " meet(1000) = -6 meet(-1) = -6 till(15) meet(999) = 1");
+        Calls.fresh().calls("stretch(1, 1, 0, 1) stretch(2, 1, 0, 1) stretch(2, 1, 1, 1) meet(0) = 7"
+            + " meet(1) = 3 meet(2) = 7 meet(999) = 3 meet(998) = 7");
     }
 }

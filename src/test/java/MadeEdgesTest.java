@@ -87,6 +87,9 @@ public final class MadeEdgesTest {
         // PLACES 15 (as far from 10 as from 20), 15.9, cut, and 16
         Calls.fresh().tune(0, 1).calls("ask(3, 214) cut(0, 0, 1, 1) = 1 ask(3, 227)"
             + " cut(0, 0, 1, 1) = 1 ask(3, 228) cut(0, 0, 1, 1) = 2");
+        // PLACE 3030.7, cut, of SPACE 60 as far from 3000 as from 3060
+        Calls.fresh().tune(176, 5).calls("ask(3, 574) cut(0, 0, 15, 0) = 60 cut(0, 0, 15, 1) = 50"
+            + " ask(3, 575) cut(0, 0, 15, 1) = 51");
     }
 
     private static void cutTimesHeld() {
@@ -313,6 +316,9 @@ public final class MadeEdgesTest {
         // 60 of SPACE 10 last 852 at 10
         Calls.fresh().tune(704, 1).tune(0, 16).calls("ask(3, 1704) brief(0, 10) = 600 ask(3, 1705)"
             + " brief(0, 10) = 610 ask(3, 2000) brief(1, 99) = 111520");
+        // 352 of SPACE 10 last a second just so at 50
+        Calls.fresh().tune(0, 16).calls("ask(3, 125) brief(0, 50) = 3520 ask(3, 126)"
+            + " brief(0, 50) = 3550");
     }
 
     private static final String SCALE = "SCALE: HUM as a step of twelve above a BASE PITCH b (1 to "
@@ -376,7 +382,10 @@ public final class MadeEdgesTest {
             + " stretch(1, 10, 0, 1)").tune(720, 1).calls("read(0) = 0").tune(700, 1)
             .calls("read(0) = 1").tune(708, 1).calls("hears(0, 2, 0) = 5 read(0) = 1").tune(704, 1)
             .calls("read(0) = 3").tune(704, 1).tune().calls("read(0) = 3 till(0) read(0) = 5");
-        Calls.fresh().tune(704, 1).tune(1, 1).calls("car(10, 0, 0) read(0) = 0");
+        Calls.fresh().tune(704, 1).tune(1, 1).calls("car(10, 0, 0) read(0) = 0 stretch(1, 10, 0, 1)"
+            + " read(0) = 0");
+        Calls.fresh().tune(720, 1).tune(704, 1).tune(710, 1).calls("car(10, 0, 0)"
+            + " stretch(1, 10, 0, 1) read(0) = 1");
         Calls.full().calls("read(5) = 0 read(6) = -1");
     }
 
@@ -388,10 +397,15 @@ public final class MadeEdgesTest {
             + " mirror() = 0 stretch(1, 11, 0, 1) mirror() = 1 stretch(1, 12, 0, 1) mirror() = 2"
             + " stretch(1, 10, 0, 1) mirror() = 1 till(2) mirror() = 0 till(1) mirror() = 0");
         Calls x = Calls.fresh();
+        Calls alike = Calls.fresh();
         for (int i = 0; i < 16; i++) {
             x.calls("stretch(1, " + (i + 10) + ", 0, 1)");
+            alike.calls("stretch(1, " + Math.min(i + 10, 25 - i) + ", 0, 1)");
         }
         x.calls("mirror() = 8 till(15) mirror() = 7 till(14) mirror() = 7");
+        alike.calls("mirror() = 0 till(15) mirror() = 7");
+        Calls.fresh().calls("stretch(1, 10, 0, 1) stretch(1, 11, 0, 1) stretch(1, 11, 0, 1)"
+            + " stretch(1, 12, 0, 1) mirror() = 1 till(3) mirror() = 1");
         // at 10 75 by 93 and 74 by 94 and 95
         Calls.fresh().calls("stretch(5, 60, 34, 1) stretch(5, 60, 35, 1) hum(0, 10) = 74"
             + " hum(1, 10) = 74 hum(0, 11) = 82 hum(1, 11) = 81 mirror() = 0 till(0)"
@@ -416,6 +430,7 @@ public final class MadeEdgesTest {
             + " loud(1, 39) = 1 loud(1, 40) = 0 worn() = 40 stretch(6, 5, 0, 1) loud(2, 49) = 1"
             + " loud(2, 50) = 0 worn() = 50 stretch(4, 5, 0, 1) loud(3, 50) = 5 worn() = -1 till(3)"
             + " worn() = 50 till(2) worn() = 40 till(1) worn() = 0 stretch(4, 5, 0, 1) worn() = -1");
+        Calls.fresh().calls("stretch(1, 5, 0, 1) worn() = 50 stretch(3, 5, 0, 1) worn() = 50");
     }
 
     private static int next(int seed) {

@@ -194,6 +194,10 @@ public final class RoadEdgesTest {
                 + " stretchOf(0, 2) = 60 stretchOf(0, 3) = 60 stretchOf(1, 0) = 0"
                 + " stretchOf(1, 1) = 1 stretchOf(1, 2) = 0 stretchOf(1, 3) = 1"
                 + " stretches(0, 1, 0) = 0 stretches(0, 10, 0) = 0 status(0) = 2");
+        Calls.fresh().row(0, 2, 0, 5, 0, 5, 1, 6, 0, 6, 2, 7, 0, 7, 3, 8, 0, 8)
+            .calls("stretches(0, 0, 4) = 1 stretches(0, 4, 8) = 2 stretches(0, 0, 12) = 3"
+                + " stretches(0, 0, 0) = 0 status(0) = 6 stretchOf(0, 0) = 0 stretchOf(1, 0) = 1"
+                + " stretchOf(2, 0) = 2 stretchOf(3, 0) = 0 stretchOf(5, 0) = 2");
         Calls.fresh().calls("row(0, 2, 0) stretches(0, 0, 0) = 0 stretches(0, 0, 4) = -5"
             + " stretches(0, -1, 0) = -5 status(0) = 0");
     }
