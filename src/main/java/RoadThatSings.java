@@ -592,14 +592,14 @@ public final class RoadThatSings {
     }
 
     private static int withinOctave(int above) {
-        int within = above;
-        for (int i = 0; i < 32 && within > 1999; i++) {
-            within = within / 2;
+        int moved = above;
+        for (int i = 0; i < 32 && moved > 1999; i++) {
+            moved = moved / 2;
         }
-        for (int i = 0; i < 32 && within < 1000; i++) {
-            within = within * 2;
+        for (int i = 0; i < 32 && moved < 1000; i++) {
+            moved = moved * 2;
         }
-        return within;
+        return moved;
     }
 
     private static int nearestStep(int above) {
